@@ -1154,18 +1154,22 @@ public final class PaperForms {
         }
 
         /**
-         * The rest of a by b as Java's % gives it, for b above 0.0. Exact as long as
-         * whole times b is: here b has few bits, and a is within ints.
+         * The rest of a by b as Java's % gives it, for b above 0.0: the greatest doubled
+         * b goes off first. Nothing is rounded: what is left is below twice the step.
          */
         static double rest(double a, double b) {
             double left = size(a);
-            if (left >= b) {
-                long whole = (long) (left / b);
-                left -= whole * b;
-                if (left < 0.0) {
-                    // The division was rounded up to the next whole number.
-                    left += b;
+            double step = b;
+            int doubled = 0;
+            while (step <= left * 0.5 && doubled < DOUBLE_BIAS) {
+                step *= 2.0;
+                doubled++;
+            }
+            for (int i = doubled; i >= 0; i--) {
+                if (left >= step) {
+                    left -= step;
                 }
+                step *= 0.5;
             }
             return isMinus(a) ? -left : left;
         }
