@@ -756,13 +756,17 @@ public final class PaperForms {
         }
 
         double chanceAt(int item, int v) {
-            float x = distance(item, v);
+            return chanceAtDistance(distance(item, v));
+        }
+
+        private static double chanceAtDistance(float x) {
             return 0.5 + 0.5 * x / (1.0 + Numbers.size(x));
         }
 
         double tellsAt(int item, int v) {
             double s = steepness(item);
-            double p = chanceAt(item, v);
+            float x = distance(item, v);
+            double p = chanceAtDistance(x);
             double plain = s * s * p * (1.0 - p);
             int minutes = facts[ITS_MINUTES][item];
             switch (facts[ITS_KIND][item]) {
@@ -775,8 +779,7 @@ public final class PaperForms {
                 case PAIR:
                     return (float) (plain * p) * 0.3f;
                 case ESSAY:
-                    return minutes / 16.0
-                            + Numbers.rest(Numbers.size(distance(item, v)), 0.75) / 4.0;
+                    return minutes / 16.0 + Numbers.rest(Numbers.size(x), 0.75) / 4.0;
                 default:
                     return plain;
             }
@@ -1124,7 +1127,7 @@ public final class PaperForms {
         }
 
         static double size(double d) {
-            return isMinus(d) ? -d : d;
+            return d < 0.0 ? -d : d;
         }
 
         /** Also of -0.0, which no comparison tells from 0.0, but a division does. */
@@ -1159,6 +1162,9 @@ public final class PaperForms {
          */
         static double rest(double a, double b) {
             double left = size(a);
+            if (left < b) {
+                return a;
+            }
             double step = b;
             int doubled = 0;
             while (step <= left * 0.5 && doubled < DOUBLE_BIAS) {
@@ -1171,7 +1177,7 @@ public final class PaperForms {
                 }
                 step *= 0.5;
             }
-            return isMinus(a) ? -left : left;
+            return a < 0.0 ? -left : left;
         }
     }
 }

@@ -1,6 +1,7 @@
 /**
  * The document's promises one by one: ordinary inputs, the edges that it names, wrong
- * inputs, and that an act which answers a finding changes nothing but status().
+ * inputs, and that an act which answers a finding changes nothing but status(). No object
+ * is used for more than 512 calls.
  */
 public final class PromiseChecks {
     private static final int BEYOND = -1000001;
@@ -240,6 +241,7 @@ public final class PromiseChecks {
         x.change(0, 3, 5);
 
         for (int v = -64; v <= 64; v++) {
+            x = oneOfEachKind();
             float s = 5 / 4f;
             float at = s * (v / 8f - 3 / 8f);
             double size = at < 0 ? -at : at;
@@ -288,10 +290,11 @@ public final class PromiseChecks {
         int[][] aims = {{5, 7}, {-64, 9}, {0, 0}, {-20, 2}};
         for (int set = 0; set < 64; set++) {
             double value = 0.0;
+            PaperForms y = oneOfEachKind();
             for (int[] aim : aims) {
                 for (int item = 0; item < 6; item++) {
                     if ((set & 1 << item) != 0) {
-                        value += Double.longBitsToDouble(x.tells(item, aim[0])) * (aim[1] * 0.1f);
+                        value += Double.longBitsToDouble(y.tells(item, aim[0])) * (aim[1] * 0.1f);
                     }
                 }
             }
@@ -608,6 +611,16 @@ public final class PromiseChecks {
         due(24, "halves", like.forms(0), 63);
         due(24, "halves", like.forms(1), 63 << 6);
         PaperForms few = bankOf(3);
+        PaperForms ones = graded();
+        ones.rule(0, 1);
+        ones.change(0, 2, 20);
+        ones.change(2, 2, 6);
+        due(24, "of like ones the least FIRST", ones.forms(0), 1);
+        due(24, "of like ones the least SECOND", ones.forms(1), 4);
+        ones.change(3, 2, 20);
+        ones.change(4, 2, 20);
+        due(24, "two of three like ones", ones.forms(0), 1);
+        due(24, "two of three like ones", ones.forms(1), 8);
         due(24, "too few for two", few.forms(0), NONE);
         due(24, "too few for two", few.forms(1), NONE);
         due(24, "too few for two, beyond", few.forms(2), BEYOND);
@@ -705,14 +718,18 @@ public final class PromiseChecks {
         }
         x.rule(2, 0);
         due(28, "nothing is a paper", x.loose(20), 0);
-        likeOnesTheFirst();
+        bothDrawn(bankOf(6));
+        bothDrawn(graded());
     }
 
-    /** Without weights all papers are alike, and the first one drawn is used. */
-    private static void likeOnesTheFirst() {
-        PaperForms x = bankOf(6);
+    /** Of two papers drawn the greater one is used; without weights all are alike. */
+    private static void bothDrawn(PaperForms x) {
         x.rule(0, 3);
-        for (int seed = 0; seed < 300; seed++) {
+        PaperForms y = graded();
+        if (x.told(30) == 0) {
+            y.aim(0, 0, 0);
+        }
+        for (int seed = 0; seed < 200; seed++) {
             int z = seed * 1103515245 + 12345;
             int first = (z >>> 8) % 4096 & 63;
             z = z * 1103515245 + 12345;
@@ -720,9 +737,10 @@ public final class PromiseChecks {
             if (first != second && Integer.bitCount(first) == 3 && Integer.bitCount(second) == 3) {
                 x.image();
                 x.seed(seed);
+                int chosen = value(y, second) > value(y, first) ? second : first;
                 due(28, "both are papers", x.loose(1), 1);
                 for (int item = 0; item < 6; item++) {
-                    due(28, "the first was used", x.of(item, 6), first >> item & 1);
+                    due(28, "the greater, or the first", x.of(item, 6), chosen >> item & 1);
                 }
                 x.back();
             }
@@ -971,8 +989,9 @@ public final class PromiseChecks {
 
     private static void tables() {
         PaperForms x = oneOfEachKind();
-        x.sheet(2, 2, 40);
         for (int item = 0; item < 6; item++) {
+            x = oneOfEachKind();
+            x.sheet(2, 2, 40);
             due(39, "upwards", x.table(2, item, -60, 3), 40);
             for (int i = 0; i < 40; i++) {
                 due(39, "number", x.item(2, i), x.tells(item, -60 + 3 * i));
@@ -1033,8 +1052,9 @@ public final class PromiseChecks {
             }
         }
         PaperForms x = oneOfEachKind();
-        x.sheet(2, 2, 40);
         for (int item = 0; item < 6; item++) {
+            x = oneOfEachKind();
+            x.sheet(2, 2, 40);
             x.table(2, item, -60, 3);
             double sum = 0.0;
             for (int i = 0; i < 40; i++) {
