@@ -45,6 +45,7 @@ public final class PromiseChecks {
         images();
         counts();
         statuses();
+        fullBank();
         System.out.println(checks + " answers asked for, " + wrong + " of them not as due");
         if (wrong != 0) {
             System.exit(1);
@@ -610,6 +611,10 @@ public final class PromiseChecks {
         like.rule(0, 6);
         due(24, "halves", like.forms(0), 63);
         due(24, "halves", like.forms(1), 63 << 6);
+        PaperForms one = bankOf(1);
+        one.rule(0, 1);
+        due(24, "one paper, no other one", one.forms(0), NONE);
+        due(25, "one paper, no other one", one.gap(), LONG_NONE);
         PaperForms few = bankOf(3);
         PaperForms ones = graded();
         ones.rule(0, 1);
@@ -1209,5 +1214,31 @@ public final class PromiseChecks {
         x.seed(-1000001);
         x.seed(0);
         due(45, "an answer that looks like one", x.status(-1), 14);
+    }
+
+    /** Twelve items, the last of them in everything. */
+    private static void fullBank() {
+        PaperForms x = bankOf(12);
+        x.aim(0, 0, 1);
+        x.change(11, 3, 12);
+        due(7, "enemy of the last", x.enemy(11, 0, true), 0);
+        due(7, "enemy of the last", x.enemy(10, 11, true), 0);
+        due(44, "twos of ENEMIES", x.count(1), 2);
+        due(44, "MINUTES", x.count(3), 120);
+        due(12, "value of all", x.value(4095) != x.value(2047) ? 1 : 0, 1);
+        due(14, "peak of all", x.peak(4095, -64, 64), 0);
+        due(18, "all", x.against(4095), 1);
+        due(21, "with the last", x.best(), 2048 | 2);
+        due(22, "of the least", x.rank(3), 9);
+        due(23, "the last", x.swap(6, 1), 11);
+        due(24, "the first with it", x.forms(0), 3);
+        due(26, "use of the last", x.use(2048 | 2), 0);
+        due(26, "USED of the last", x.of(11, 6), 1);
+        due(27, "uses", x.uses(20), 20);
+        due(44, "USED", x.count(2), 42);
+        due(28, "loose", x.loose(20) >= 0 ? 1 : 0, 1);
+        due(5, "drop", x.drop(), 11);
+        due(5, "enemies of the last are gone", x.count(1), 0);
+        due(12, "no such item any more", x.value(2048), LONG_BEYOND);
     }
 }
