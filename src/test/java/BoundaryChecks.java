@@ -597,6 +597,9 @@ public final class BoundaryChecks {
             due(7, "all others", x.of(i, 7), 4095 - (1 << i));
         }
         answers(7, "first and last, no more", x, y -> y.enemy(0, 11, false), 1);
+        due(7, "ENEMIES of the first", x.of(0, 7), 2046);
+        due(7, "ENEMIES of the last", x.of(11, 7), 2046);
+        due(7, "all twos but one", x.count(1), 65);
         answers(7, "first and last, no more", x, y -> y.enemy(11, 0, false), 0);
         due(7, "ENEMIES of the first", x.of(0, 7), 2046);
         due(7, "ENEMIES of the last", x.of(11, 7), 2046);
@@ -604,6 +607,12 @@ public final class BoundaryChecks {
         answers(7, "again", x, y -> y.enemy(11, 0, true), 0);
         answers(7, "again", x, y -> y.enemy(0, 11, true), 1);
         due(7, "all twos", x.count(1), 66);
+        for (int i = 1; i < 12; i++) {
+            int last = i;
+            answers(7, "two after two, no more", x, y -> y.enemy(last, last - 1, false), 1);
+            due(7, "ENEMIES of " + i, x.of(i, 7), 4095 - (3 << i - 1));
+            due(7, "twos left", x.count(1), 66 - i);
+        }
     }
 
     // ---- promises 8 to 14: what is told at an ability
@@ -772,6 +781,9 @@ public final class BoundaryChecks {
         answers(14, "it rises to the last", x, y -> y.peak(1, -64, 31), 31);
         answers(14, "it falls from the first", x, y -> y.peak(1, 33, 64), 33);
         answers(14, "the top is the last", x, y -> y.peak(1, 0, 32), 32);
+        answers(14, "the top is the last of two", x, y -> y.peak(1, 31, 32), 32);
+        answers(14, "the top is the second", x, y -> y.peak(1, 31, 64), 32);
+        answers(14, "the top is the first of two", x, y -> y.peak(1, 32, 33), 32);
         answers(14, "the top is the first", x, y -> y.peak(1, 32, 64), 32);
         answers(14, "of like ones the least", x, y -> y.peak(3, -64, 64), -32);
         answers(14, "the lesser top is out", x, y -> y.peak(3, -31, 64), 32);
@@ -1179,6 +1191,12 @@ public final class BoundaryChecks {
         x.aim(0, 0, 1);
         x.change(11, 3, 12);
         answers(23, "the last of twelve", x, y -> y.swap(3, 0), 11);
+        x.change(2, 3, 12);
+        answers(23, "of like ones the least", x, y -> y.swap(3, 0), 2);
+        x.change(11, 3, 11);
+        answers(23, "the first that isn't of it", x, y -> y.swap(3, 0), 2);
+        x.change(7, 3, 6);
+        answers(23, "the first that isn't of it", x, y -> y.swap(3, 1), 2);
     }
 
     /** BEYOND ahead of STATE ahead of KIND ahead of NONE, where more than one would do. */
@@ -1379,28 +1397,40 @@ public final class BoundaryChecks {
         }
         for (int seed : new int[] {1, 0, -1, LEAST, MOST, 77, 1 << 20, -1103515245}) {
             for (int n : new int[] {1, 20}) {
-                looseRun(seed, n, 6, 3, 999);
-                looseRun(seed, n, 6, 3, 2);
-                looseRun(seed, n, 6, 3, 1);
-                looseRun(seed, n, 12, 6, 999);
-                looseRun(seed, n, 12, 6, 2);
-                looseRun(seed, n, 1, 1, 5);
-                looseRun(seed, n, 2, 1, 20);
+                for (int weight : new int[] {0, 5}) {
+                    looseRun(seed, n, drawn(6, 3, 999, weight));
+                    looseRun(seed, n, drawn(6, 3, 2, weight));
+                    looseRun(seed, n, drawn(6, 3, 1, weight));
+                    looseRun(seed, n, drawn(12, 6, 999, weight));
+                    looseRun(seed, n, drawn(12, 6, 2, weight));
+                    looseRun(seed, n, drawn(1, 1, 5, weight));
+                    looseRun(seed, n, drawn(2, 1, 20, weight));
+                }
             }
         }
     }
 
-    /** A run of draws beside one that is drawn here, of items 0 to n - 1 of values 1 to n. */
-    private static void looseRun(int seed, int n, int items, int size, int exposed) {
-        PaperForms x = new PaperForms();
-        for (int i = 0; i < items; i++) {
-            x.add(5, 0, i + 1, 4, 0, -1);
-        }
-        x.aim(0, 0, 5);
-        x.rule(0, size);
-        x.rule(1, 240);
-        x.rule(2, exposed);
-        x.seed(seed);
+    /** Essays of 1, 2, .. minutes, which are alike without a weight. */
+    private static Making drawn(int items, int size, int exposed, int weight) {
+        return () -> {
+            PaperForms x = new PaperForms();
+            for (int i = 0; i < items; i++) {
+                x.add(5, 0, i + 1, 4, 0, -1);
+            }
+            x.aim(0, 0, weight);
+            x.rule(0, size);
+            x.rule(1, 240);
+            x.rule(2, exposed);
+            return x;
+        };
+    }
+
+    /** A run of draws beside one that is drawn here; a twin tells the values. */
+    private static void looseRun(int seed, int n, Making state) {
+        PaperForms twin = state.make();
+        int items = twin.count(0);
+        int size = twin.told(0);
+        int exposed = twin.told(2);
         int[] used = new int[items];
         int z = seed;
         int often = 0;
@@ -1415,7 +1445,8 @@ public final class BoundaryChecks {
                     papers[draw] &= (sets[draw] & 1 << item) == 0 || used[item] < exposed;
                 }
             }
-            boolean second = papers[1] && (!papers[0] || number(x.value(sets[1])) > number(x.value(sets[0])));
+            boolean second = papers[1]
+                    && (!papers[0] || number(twin.value(sets[1])) > number(twin.value(sets[0])));
             if (papers[0] || papers[1]) {
                 often++;
                 for (int item = 0; item < items; item++) {
@@ -1423,6 +1454,8 @@ public final class BoundaryChecks {
                 }
             }
         }
+        PaperForms x = state.make();
+        x.seed(seed);
         String what = "loose(" + n + ") of " + items + " from " + seed;
         int wanted = often;
         answers(28, what, x, y -> y.loose(n), wanted);
@@ -2031,7 +2064,7 @@ public final class BoundaryChecks {
         return all;
     }
 
-    /** Each thing that is kept, at its edges, and nothing that came behind the image. */
+    /** What was kept latest, and nothing that came behind the image. */
     private static void keptLatest() {
         PaperForms x = alike(2);
         x.image();
@@ -2040,28 +2073,6 @@ public final class BoundaryChecks {
         x.seed(MOST);
         answers(43, "the latest", x, y -> y.back(), 2);
         due(43, "z", x.count(4), LEAST);
-        x.image();
-        x.change(0, 6, 999);
-        x.use(3);
-        x.uses(20);
-        x.loose(20);
-        x.enemy(0, 1, true);
-        x.aim(3, 64, 9);
-        x.topic(3, 6, 6);
-        x.rule(0, 6);
-        x.rule(1, 240);
-        x.rule(2, 0);
-        x.back();
-        due(43, "USED", x.count(2), 0);
-        due(43, "ENEMIES", x.count(1), 0);
-        due(43, "ABILITY", x.told(23), 0);
-        due(43, "WEIGHT", x.told(33), 0);
-        due(43, "TOPIC", x.told(13), 6);
-        due(43, "SIZE", x.told(0), 2);
-        due(43, "LONGEST", x.told(1), 60);
-        due(43, "EXPOSED", x.told(2), 999);
-        due(43, "z", x.count(4), LEAST);
-        due(43, "it is a PAPER again", x.against(3), 0);
         answers(42, "image() again and again", x, y -> y.image(), 1);
         answers(42, "image() again and again", x, y -> y.image(), 1);
         // What is kept is no part of what is there: a change behind back() changes no image.
@@ -2069,6 +2080,52 @@ public final class BoundaryChecks {
         x.change(0, 2, 20);
         x.back();
         due(43, "MINUTES", x.of(0, 2), 1);
+        x.uses(20);
+        x.loose(20);
+        x.back();
+        due(43, "USED", x.count(2), 0);
+        due(43, "z", x.count(4), LEAST);
+        eachThingKept();
+    }
+
+    /** Each thing on its own to its least and its most behind an image, and back. */
+    private static void eachThingKept() {
+        List<Call> acts = new ArrayList<>();
+        for (int what = 0; what < 7; what++) {
+            int w = what;
+            acts.add(x -> x.change(0, w, FACTS[w][0]));
+            acts.add(x -> x.change(0, w, FACTS[w][1]));
+            acts.add(x -> x.change(11, w, FACTS[w][0]));
+            acts.add(x -> x.change(11, w, FACTS[w][1]));
+        }
+        for (int k = 0; k < 4; k++) {
+            int at = k;
+            acts.add(x -> x.aim(at, -64, 9));
+            acts.add(x -> x.aim(at, 64, 0));
+            acts.add(x -> x.topic(at, 0, 0));
+            acts.add(x -> x.topic(at, 6, 6));
+        }
+        int[][] limits = {{1, 6}, {0, 240}, {0, 999}};
+        for (int what = 0; what < 3; what++) {
+            int w = what;
+            acts.add(x -> x.rule(w, limits[w][0]));
+            acts.add(x -> x.rule(w, limits[w][1]));
+        }
+        acts.add(x -> x.seed(LEAST));
+        acts.add(x -> x.seed(MOST));
+        acts.add(x -> x.enemy(0, 11, true));
+        acts.add(x -> x.enemy(9, 11, false));
+        acts.add(x -> x.drop());
+        acts.add(x -> x.uses(20));
+        acts.add(x -> x.loose(20));
+        List<Long> before = bankOf(rich());
+        for (int i = 0; i < acts.size(); i++) {
+            PaperForms x = rich();
+            x.image();
+            acts.get(i).on(x);
+            answers(43, "behind act " + i, x, y -> y.back(), 12);
+            due(43, "the first thing unlike what was kept, act " + i, firstUnlike(bankOf(x), before), -1);
+        }
     }
 
     private static void count44() {

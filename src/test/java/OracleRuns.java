@@ -99,16 +99,18 @@ public final class OracleRuns {
         private final Random random;
         private final int full;
         private final int wild;
+        private boolean filling;
         private final String[] names = FACE.keySet().toArray(new String[0]);
 
         Draw(int run) {
             random = new Random(run * 7919L + 17);
             full = random.nextInt(14);
-            wild = random.nextInt(3) == 0 ? 12 : 60;
+            wild = new int[] {3, 12, 60, 60}[random.nextInt(4)];
         }
 
         String name(int i, Oracle due) {
-            if (i < full || due.items.size() < 3 && random.nextInt(3) == 0) {
+            filling = i < full;
+            if (filling || due.items.size() < 3 && random.nextInt(3) == 0) {
                 return "add";
             }
             if (random.nextInt(6) == 0) {
@@ -122,7 +124,8 @@ public final class OracleRuns {
         }
 
         private int from(int low, int high) {
-            if (random.nextInt(wild) == 0) {
+            // A bank is filled first, so that wild runs aren't runs of no items alone.
+            if (!filling && random.nextInt(wild) == 0) {
                 int[] others = {low - 1, high + 1, Integer.MIN_VALUE, Integer.MAX_VALUE, -1, low - 7, high + 9};
                 return others[random.nextInt(others.length)];
             }
