@@ -929,7 +929,7 @@ public final class PaperForms {
             readAims();
             listed = 0;
             for (int set = 0; set < 1 << bank.items && listed < MOST_PAPERS; set++) {
-                if (isPaper(set)) {
+                if (brokenRule(set, 0) == 0) {
                     found[listed] = set;
                     values[listed] = valueOf(set);
                     listed++;

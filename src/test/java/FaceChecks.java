@@ -24,14 +24,22 @@ import java.lang.reflect.Field;
 import java.lang.reflect.InvocationTargetException;
 import java.lang.reflect.Method;
 import java.lang.reflect.Modifier;
+import java.nio.file.Files;
+import java.nio.file.Path;
 import java.util.ArrayDeque;
+import java.util.ArrayList;
 import java.util.Arrays;
 import java.util.Collections;
 import java.util.Deque;
+import java.util.HashMap;
+import java.util.HashSet;
 import java.util.IdentityHashMap;
 import java.util.List;
+import java.util.Map;
 import java.util.Set;
 import java.util.TreeSet;
+import java.util.regex.Matcher;
+import java.util.regex.Pattern;
 import javax.lang.model.element.Element;
 import javax.lang.model.element.ElementKind;
 import javax.lang.model.type.TypeKind;
@@ -59,13 +67,26 @@ public final class FaceChecks {
         "long item(int,int)", "int copy(int,int,int,int,int)", "int casts(int,int)",
         "int table(int,int,int,int)", "int rests(int,int)", "long sum(int)", "int image()", "int back()",
         "int count(int)", "int status(int)"};
+    /** What the interface says ahead of which calls, in the document's order. */
+    private static final String[][] SECTIONS = {
+        {"items", "add", "of", "change", "drop", "as", "enemy"},
+        {"what is told at an ability", "slope", "tells", "chance", "aim", "value", "worth", "peak"},
+        {"the blueprint", "topic", "rule", "told"},
+        {"papers", "against", "papers", "without", "best", "rank", "swap", "forms", "gap", "use", "uses", "loose",
+            "seed"},
+        {"shelves", "shelf", "lay", "stands", "moves"},
+        {"sheets", "sheet", "write", "item", "copy", "casts", "table", "rests", "sum"},
+        {"images, what is told", "image", "back", "count", "status"}};
     private static final Set<String> LIBRARY = Set.of("java.lang.Integer.bitCount", "java.lang.Math.min",
             "java.lang.Math.max", "java.lang.System.arraycopy", "java.lang.Object.<init>");
+
+    private static final int MOST_DEEP = 8;
 
     private static int wrong = 0;
 
     public static void main(String[] args) throws Exception {
         checkFace();
+        checkSections();
         checkLanguage();
         checkRoom();
         checkCallsMakeNothing();
@@ -112,6 +133,26 @@ public final class FaceChecks {
         }
     }
 
+    /** Each section's line stands ahead of its calls, and these in the face's order. */
+    private static void checkSections() throws Exception {
+        List<String> wanted = new ArrayList<>();
+        for (String[] section : SECTIONS) {
+            wanted.add("---- " + section[0]);
+            wanted.addAll(Arrays.asList(section).subList(1, section.length));
+        }
+        List<String> found = new ArrayList<>();
+        Pattern told = Pattern.compile("    // (---- .*)|    public (?:int|long) (\\w+)\\(.*");
+        for (String line : Files.readAllLines(Path.of(SOURCE))) {
+            Matcher m = told.matcher(line);
+            if (m.matches()) {
+                found.add(m.group(1) != null ? m.group(1) : m.group(2));
+            }
+        }
+        if (found.size() < wanted.size() || !found.subList(0, wanted.size()).equals(wanted)) {
+            fault("the sections and calls are " + found + ", due is " + wanted);
+        }
+    }
+
     private static void checkLanguage() throws Exception {
         JavaCompiler compiler = ToolProvider.getSystemJavaCompiler();
         StandardJavaFileManager files = compiler.getStandardFileManager(null, null, null);
@@ -127,6 +168,12 @@ public final class FaceChecks {
         if (scanner.classes > 12) {
             fault("more than twelve classes");
         }
+        for (Element method : scanner.calls.keySet()) {
+            int depth = scanner.depthOf(method, 0);
+            if (depth > MOST_DEEP) {
+                fault(method + " goes " + depth + " calls deep, or calls itself");
+            }
+        }
     }
 
     /** Reports what LANGUAGE.md leaves out, as far as this program could come near it. */
@@ -134,6 +181,9 @@ public final class FaceChecks {
         private final Trees trees;
         private final CompilationUnitTree unit;
         private final Set<String> publicNames = new TreeSet<>();
+        /** Which methods (or constructors) each one calls. */
+        final Map<Element, Set<Element>> calls = new HashMap<>();
+        private Element caller;
         int classes;
 
         RuleScanner(JavacTask task, CompilationUnitTree unit) {
@@ -161,8 +211,28 @@ public final class FaceChecks {
             return type.getKind() == TypeKind.DOUBLE || type.getKind() == TypeKind.FLOAT;
         }
 
+        /** How many calls stand open at once, the method's own one among them. */
+        int depthOf(Element method, int above) {
+            int deepest = 0;
+            if (above <= MOST_DEEP) {
+                for (Element other : calls.getOrDefault(method, Set.of())) {
+                    deepest = Math.max(deepest, depthOf(other, above + 1));
+                }
+            }
+            return deepest + 1;
+        }
+
         @Override public Void visitClass(ClassTree tree, Void p) {
             classes++;
+            int fields = 0;
+            for (Tree member : tree.getMembers()) {
+                boolean isOwn = member instanceof VariableTree v
+                        && !v.getModifiers().getFlags().contains(javax.lang.model.element.Modifier.STATIC);
+                fields += isOwn ? 1 : 0;
+            }
+            if (fields > 20) {
+                refuse(tree, "more than twenty fields");
+            }
             return super.visitClass(tree, p);
         }
 
@@ -177,6 +247,7 @@ public final class FaceChecks {
             if (!isPublic && publicNames.contains(tree.getName().toString())) {
                 refuse(tree, "bears a public method's name");
             }
+            caller = trees.getElement(getCurrentPath());
             return super.visitMethod(tree, p);
         }
 
@@ -199,6 +270,9 @@ public final class FaceChecks {
             String name = owner + "." + method.getSimpleName();
             if (!owner.startsWith("PaperForms") && !LIBRARY.contains(name)) {
                 refuse(tree, "calls " + name);
+            }
+            if (caller != null) {
+                calls.computeIfAbsent(caller, m -> new HashSet<>()).add(method);
             }
             return super.visitMethodInvocation(tree, p);
         }
